@@ -59,6 +59,18 @@ public final class GroupsTest {
         Checks.due("23: refused", Checks.refused(x), "0 1 1");
     }
 
+    private static void groupOfKept() {
+        ColumnCasts x = Checks.table(4, "i(1,1,2,3)", "i(0,0,7,8)");
+        x.keep(0, 1, 1, 4, 0);
+        due("23: kept", x.group(0, 0, -1, 0), 1);
+        due("23: no second group", x.group(0, 0, 1, 0), ColumnCasts.NONE);
+        due("24: nor a sum of it", x.sum(0, 0, 1, 1), ColumnCasts.NONE);
+        due("24: got stays", x.got(), 0);
+        x.keep(0, 1, 3, 4, 0);
+        due("23: no groups", x.group(0, 0, -1, 0), 0);
+        due("23: not even the first", x.group(0, 0, 0, 0), ColumnCasts.NONE);
+    }
+
     /** Doubles are the same by number and kind alone. */
     private static void groupOfNumbers() {
         ColumnCasts x = Checks.table(6, "o(d4,f4,d4,i1,c1,d5)");
@@ -90,6 +102,23 @@ public final class GroupsTest {
         due("24: i -1", x.sum(1, 0, -1, 1), ColumnCasts.NONE);
         due("24: i MAX", x.sum(1, 0, MAX, 1), ColumnCasts.NONE);
         due("24: got stays", x.got(), -3);
+    }
+
+    /** Rows that do not stand in the view any more do not count, whatever they hold. */
+    private static void sumOfKept() {
+        ColumnCasts x = Checks.table(4, "i(1,1,1,2)", "o(i1,i2,d4,f8)", "b(3,4,5,6)");
+        x.keep(0, 2, 0, 4, 5);
+        Checks.due("23: kept", Checks.grouped(x, 0, 0), "1 0x2");
+        summed(x, 0, 0, 0, 1, 5, 3);
+        summed(x, 0, 0, 0, 2, 5, 7);
+        x.keep(1, 2, 2, 4, 4);
+        summed(x, 1, 0, 0, 1, 7, Double.doubleToLongBits(1));
+        summed(x, 1, 0, 1, 1, 7, Double.doubleToLongBits(2));
+        x.write(1, 2, 11, 5);
+        x.size(5);
+        x.write(0, 4, 4, 1);
+        x.write(1, 4, 16, 1);
+        summed(x, 1, 0, 0, 1, 7, Double.doubleToLongBits(5.25));
     }
 
     private static void sumRefused() {
@@ -279,8 +308,10 @@ public final class GroupsTest {
         pair();
         pairRefused();
         group();
+        groupOfKept();
         groupOfNumbers();
         sum();
+        sumOfKept();
         sumRefused();
         sumOver();
         sumInOrder();

@@ -184,7 +184,8 @@ public final class TableTest {
         ColumnCasts x = Checks.rows(1);
         x.column(kind);
         due("8: write by kind " + kind + " as " + as + " " + v, x.write(0, 0, as, v), 1);
-        x.ask(0, 0, 8);
+        int held = kind < 8 ? kind : as == 18 ? -1 : as == 19 ? 10 : as - 10;
+        due("8: held by kind " + kind + " as " + as, x.ask(0, 0, 8), 100 + held);
         due("8: written by kind " + kind + " as " + as + " " + v, x.got(), want);
     }
 
@@ -243,10 +244,23 @@ public final class TableTest {
             due("8: no row, kind " + kind + " as 18", x.write(0, 1, 18, 1), kind < 8 ? ColumnCasts.OTHER : ColumnCasts.BEYOND);
             due("8: no row, kind " + kind + " as 19", x.write(0, 1, 19, 1), kind < 8 ? ColumnCasts.OTHER : ColumnCasts.BEYOND);
         }
+    }
+
+    private static void writeAnew() {
         ColumnCasts x = Checks.rows(1);
         x.column(9);
         x.write(0, 0, 12, 97);
         due("8: the box keeps its kind", x.ask(0, 0, 8), 102);
+        x.write(0, 0, 19, 97);
+        due("8: then a word", x.ask(0, 0, 8), 110);
+        x.write(0, 0, 17, 97);
+        due("8: then a double", x.ask(0, 0, 8), 107);
+        x.write(0, 0, 18, 97);
+        due("8: then nothing", x.ask(0, 0, 8), 99);
+        due("8: its number", x.got(), 0);
+        x.write(0, 0, 10, 97);
+        due("8: then a boolean", x.ask(0, 0, 8), 100);
+        due("8: that is true", x.got(), 1);
     }
 
     private static void writeRefused() {
@@ -329,6 +343,9 @@ public final class TableTest {
         x.write(3, 2, 18, 0);
         due("11: a word and nothing", x.differs(2, 0), 3);
         due("11: with itself", x.differs(1, 1), -5);
+        x.write(0, 1, 4, 9);
+        due("11: by the first", x.differs(0, 1), 0);
+        due("11: by the first, the other way", x.differs(1, 0), 0);
         due("11: beyond", x.differs(4, 0), ColumnCasts.BEYOND);
         due("11: beyond, the second", x.differs(0, 4), ColumnCasts.BEYOND);
         due("11: beyond -1", x.differs(-1, -1), ColumnCasts.BEYOND);
@@ -354,6 +371,42 @@ public final class TableTest {
         due("12: gone ahead of bad", x.of(0, 3), ColumnCasts.OTHER);
         x.size(0);
         due("12: no rows", x.of(1, 0) + x.of(1, 1) + x.of(1, 2), 0);
+    }
+
+    /** Twelve columns of forty rows: as many as there may be. */
+    private static void fullTable() {
+        ColumnCasts x = Checks.rows(40);
+        for (int c = 0; c < 12; c++) {
+            x.column(c % 11);
+        }
+        due("11: 12 columns", x.differs(0, 39), -5);
+        due("10: 12 columns", x.swap(0, 39), 12);
+        due("2: 12 columns", x.size(39), 40);
+        due("2: 12 columns again", x.size(40), 39);
+        x.write(11, 39, 0, 1);
+        due("11: the last cell of all", x.differs(39, 38), 11);
+        due("12: of it", x.of(11, 1), 2);
+        due("12: nothing in 40 rows", x.of(10, 0), 40);
+        due("12: rank in 40 rows", x.of(10, 2), 39);
+        due("9: 40 rows", x.bring(11, 0, 0, 0, 40), 40);
+        due("11: brought", x.differs(39, 38), 0);
+        x.ask(0, 39, 0);
+        due("7: the last row", x.got(), 1);
+    }
+
+    /** Cells of rows that are no more do not count. */
+    private static void ofWhatIsLeft() {
+        ColumnCasts x = Checks.table(5, "o(i1,i2,i3,_,i9)", "i(1,2,3,9,1)");
+        x.size(3);
+        due("12: nothing", x.of(0, 0), 0);
+        due("12: unlike", x.of(1, 1), 3);
+        due("12: not ahead", x.of(1, 2), 2);
+    }
+
+    private static void rankOfWords() {
+        ColumnCasts x = Checks.table(12, "n(a,aa,ab,ay,az,b,ba,bb,y,z,za,zz)", "n(zz,za,z,y,bb,ba,b,az,ay,ab,aa,a)");
+        due("12: words as in a book", x.of(0, 2), 11);
+        due("12: the other way about", x.of(1, 2), 0);
     }
 
     /** Longs that are like as doubles: the lesser one is ahead. */
@@ -384,12 +437,16 @@ public final class TableTest {
         got();
         made();
         write();
+        writeAnew();
         writeRefused();
         bring();
         bringRefused();
         swap();
         differs();
         of();
+        fullTable();
+        ofWhatIsLeft();
+        rankOfWords();
         rankOfLongs();
         Checks.end();
     }

@@ -41,6 +41,7 @@ public final class TextsTest {
         wellRead(3, "d(1,-3,999999)", "d(1,-3,999999)");
         wellRead(3, "w(_,-5,0)", "w(_,-5,0)");
         wellRead(3, "n(_,a,zz)", "n(_,a,zz)");
+        wellRead(9, "n(z,aa,az,ba,bz,za,y,b,a)", "n(z,aa,az,ba,bz,za,y,b,a)");
         wellRead(12, "o(_,'a,'zz,z7,b300,c-1,s1,i-1,l9,f5,d-6)", "o(_,'a,'zz,z1,b44,c65535,s1,i-1,l9,f5,d-6,_)");
         wellRead(3, "i(7)", "i(7,0,0)");
         wellRead(3, "n(a,b)", "n(a,b,_)");
@@ -83,6 +84,9 @@ public final class TextsTest {
         faulty(2, "i(1 )", 3);
         faulty(2, "i(_)", 2);
         faulty(2, "i(a)", 2);
+        faulty(2, "d(_)", 2);
+        faulty(2, "f('a)", 2);
+        faulty(2, "z(_)", 2);
         faulty(2, "i(--1)", 3);
         faulty(2, "i(-)", 3);
         faulty(2, "i(-", 3);
@@ -306,7 +310,44 @@ public final class TextsTest {
         x.column(9);
         x.undo();
         due("32: gone as in the image", x.kindOf(0), ColumnCasts.OTHER);
+        x.column(3);
+        x.drop(1);
+        x.undo();
         due("32: column 1 comes anew", x.column(8), 1);
+        due("32: it is there", x.kindOf(1), 8);
+    }
+
+    /** As much as an image can hold. */
+    private static void fullImage() {
+        ColumnCasts x = Checks.table(40, "i(3,4,2)", "n(a,b,a)");
+        for (int c = 2; c < 12; c++) {
+            x.column(4);
+        }
+        x.write(11, 39, 4, 7);
+        x.key(1, true);
+        x.key(0, false);
+        x.key(0, true);
+        x.key(11, true);
+        for (int f = 0; f < 6; f++) {
+            x.filter(11, 2, 4, f + 1);
+        }
+        x.keep(1, 0, 2, 4, 0);
+        due("31: full", x.image(), 40);
+        x.key(-1, true);
+        x.key(2, false);
+        x.filter(-1, 0, 0, 0);
+        x.filter(0, 3, 4, 0);
+        x.write(11, 39, 4, 2);
+        x.view(1);
+        due("32: full", x.undo(), 40);
+        due("32: four keys", x.count(2), 4);
+        due("32: sorted by them", x.sort(1), 3);
+        Checks.due("32: in their order", Checks.viewed(x, 1), "[1, 2, 0]");
+        due("32: six filters", x.count(3), 6);
+        Checks.due("32: looked at", Checks.ordered(x, 0), "45 [0, 1, 2, 3, 4, 5]");
+        due("32: the last one leaves it", x.run(0), 1);
+        x.ask(11, 39, 4);
+        due("32: the last cell", x.got(), 7);
     }
 
     private static void count() {
@@ -350,6 +391,7 @@ public final class TextsTest {
         image();
         undo();
         undoOfDrop();
+        fullImage();
         count();
         Checks.end();
     }

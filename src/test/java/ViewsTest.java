@@ -83,6 +83,16 @@ public final class ViewsTest {
         kept("w(1,_,3,2)", 3, 0, 0, "[1, 4, 5, 6, 7]");
     }
 
+    private static void testsOfBytes() {
+        kept("b(1,2,3)", 1, 7, 8, "[1]");
+        kept("b(1,2,3)", 2, 6, 5, "[1, 2]");
+        kept("c(1,2,3)", 0, 7, 9, "[0, 1, 3, 4, 5, 6, 7]");
+        kept("s(1,2,3)", 1, 1, 3, "[2]");
+        kept("l(1,2,3)", 1, 2, 3, "[2]");
+        kept("f(1,8,3)", 1, 1, 2, "[1]");
+        kept("d(1,8,3)", 1, 6, 3, "[2]");
+    }
+
     /** Longs by their numbers, with a double as doubles. */
     private static void testsOfLongs() {
         ColumnCasts x = Checks.rows(3);
@@ -166,6 +176,44 @@ public final class ViewsTest {
         due("17: no view -1", x.sort(-1), ColumnCasts.NONE);
     }
 
+    private static void sortByFourKeys() {
+        ColumnCasts x = Checks.table(5, "i(1,1,1,1,1)", "i(2,2,2,2,2)", "i(3,4,3,3,4)", "n(a,b,a,c,a)");
+        for (int c = 0; c < 4; c++) {
+            x.key(c, c == 3);
+        }
+        due("17: four keys", x.sort(0), 3);
+        Checks.due("17: by four keys, like ones as they stood", Checks.viewed(x, 0), "[3, 0, 2, 1, 4]");
+    }
+
+    private static void fullViews() {
+        StringBuilder text = new StringBuilder("i(39");
+        for (int r = 38; r > 7; r--) {
+            text.append(',').append(r);
+        }
+        ColumnCasts x = Checks.table(40, text.append(')').toString());
+        due("13: 40 rows", x.view(0), 40);
+        x.key(0, false);
+        x.key(0, true);
+        x.key(0, false);
+        x.key(0, false);
+        due("17: 40 rows", x.sort(0), 40);
+        due("14: the first of 40", x.viewed(0, 0), 32);
+        due("14: the last of 40", x.viewed(0, 39), 0);
+        due("14: no 41st", x.viewed(0, 40), ColumnCasts.NONE);
+        for (int f = 0; f < 6; f++) {
+            x.filter(0, 0, 4, 100 - f);
+        }
+        Checks.due("19: 40 rows", Checks.ordered(x, 0), "240 [0, 1, 2, 3, 4, 5]");
+        due("20: 40 rows", x.looked(1), 240);
+        due("21: 40 rows", x.run(0), 40);
+        due("15: 40 rows", x.keep(0, 0, 4, 4, 0), 40);
+        due("22: 40 rows by 40", x.pair(0, 0, -1), 32 + 8 * 8);
+        due("23: 40 rows", x.group(1, 0, -1, 0), 33);
+        due("23: the last group", x.group(1, 0, 32, 0), 32);
+        due("23: of 8 rows", x.group(1, 0, 32, 1), 8);
+        due("24: of the last group", x.sum(1, 0, 32, 0), 5);
+    }
+
     private static void sortTurned() {
         ColumnCasts x = Checks.table(6, "i(1,2,1,2,1,2)");
         x.key(0, true);
@@ -231,6 +279,21 @@ public final class ViewsTest {
         x.filter(-1, 0, 0, 0);
         due("19: no filters", x.order(0, -1), 0);
         due("19: no filters, none of them", x.order(0, 0), ColumnCasts.NONE);
+    }
+
+    private static void orderAnew() {
+        ColumnCasts x = Checks.table(4, "i(1,1,1,1)", "i(1,0,0,0)");
+        x.filter(0, 1, 4, 1);
+        x.filter(1, 1, 4, 1);
+        Checks.due("19: order", Checks.ordered(x, 0), "5 [1, 0]");
+        x.write(0, 0, 4, 0);
+        x.write(0, 1, 4, 0);
+        x.write(0, 2, 4, 0);
+        x.write(0, 3, 4, 0);
+        Checks.due("19: order anew", Checks.ordered(x, 0), "4 [0, 1]");
+        x.filter(-1, 0, 0, 0);
+        x.filter(1, 1, 4, 1);
+        Checks.due("19: order of one", Checks.ordered(x, 0), "4 [0]");
     }
 
     private static void orderOfLikeOnes() {
@@ -306,14 +369,18 @@ public final class ViewsTest {
         viewed();
         tests();
         testsOfWords();
+        testsOfBytes();
         testsOfLongs();
         keep();
         key();
         sort();
+        sortByFourKeys();
+        fullViews();
         sortTurned();
         sortByRank();
         filter();
         order();
+        orderAnew();
         orderOfLikeOnes();
         orderNotByStep();
         orderOfGone();
