@@ -41,8 +41,9 @@ final class Checks {
     }
 
     static void feed(ColumnCasts x, String text) {
+        int had = x.count(7);
         for (int i = 0; i < text.length(); i++) {
-            due("feed of sign " + i + " of " + text, x.feed(text.charAt(i)), x.count(7));
+            due("feed of sign " + i + " of " + text, x.feed(text.charAt(i)), had + i + 1);
         }
     }
 
@@ -63,8 +64,10 @@ final class Checks {
 
     static String spelled(ColumnCasts x, int c) {
         StringBuilder text = new StringBuilder();
-        for (int i = 0; x.spelled(c, i) >= 0; i++) {
-            text.append((char) x.spelled(c, i));
+        int sign = x.spelled(c, 0);
+        for (int i = 1; sign >= 0; i++) {
+            text.append((char) sign);
+            sign = x.spelled(c, i);
         }
         return text.toString();
     }
