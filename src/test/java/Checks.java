@@ -75,7 +75,8 @@ final class Checks {
     /** The rows of a view, as in a list. */
     static String viewed(ColumnCasts x, int view) {
         List<Integer> rows = new ArrayList<>();
-        for (int i = 0; i < x.viewed(view, -1); i++) {
+        int length = x.viewed(view, -1);
+        for (int i = 0; i < length; i++) {
             rows.add(x.viewed(view, i));
         }
         return rows.toString();
@@ -84,7 +85,8 @@ final class Checks {
     /** The best order for a view, behind how many cells are looked at. */
     static String ordered(ColumnCasts x, int view) {
         List<Integer> filters = new ArrayList<>();
-        for (int k = 0; k < x.count(3); k++) {
+        int length = x.count(3);
+        for (int k = 0; k < length; k++) {
             filters.add(x.order(view, k));
         }
         return x.order(view, -1) + " " + filters;
@@ -93,8 +95,10 @@ final class Checks {
     /** All pairs, behind how many there are. */
     static String paired(ColumnCasts x, int c, int d) {
         List<Integer> pairs = new ArrayList<>();
-        for (int i = 0; x.pair(c, d, i) >= 0; i++) {
-            pairs.add(x.pair(c, d, i));
+        int pair = x.pair(c, d, 0);
+        for (int i = 1; pair >= 0; i++) {
+            pairs.add(pair);
+            pair = x.pair(c, d, i);
         }
         return x.pair(c, d, -1) + " " + pairs;
     }
@@ -103,8 +107,10 @@ final class Checks {
     static String grouped(ColumnCasts x, int view, int c) {
         StringBuilder text = new StringBuilder();
         text.append(x.group(view, c, -1, 0));
-        for (int i = 0; x.group(view, c, i, 0) >= 0; i++) {
-            text.append(' ').append(x.group(view, c, i, 0)).append('x').append(x.group(view, c, i, 1));
+        int row = x.group(view, c, 0, 0);
+        for (int i = 1; row >= 0; i++) {
+            text.append(' ').append(row).append('x').append(x.group(view, c, i - 1, 1));
+            row = x.group(view, c, i, 0);
         }
         return text.toString();
     }

@@ -51,7 +51,7 @@ final class EdgesOfGroupCalls extends Edges {
         }
         refuses("pair 0 of none", x -> x.pair(LONGS, ANYS, 0), NONE);
         refuses("pair 0 of no rows", () -> table(0, "i()"), x -> x.pair(0, 0, 0), NONE);
-        refuses("pair 1600 of all", () -> table(40, "i()"), x -> x.pair(0, 0, 1600), NONE);
+        due("pair 1600 of all", table(40, "i()").pair(0, 0, 1600), NONE);
     }
 
     private static void group() {

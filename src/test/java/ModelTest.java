@@ -1,6 +1,7 @@
 /** Long runs of mixed calls on fresh objects, each answer compared with the model's. */
 public final class ModelTest {
-    private static final int RUNS = 1500, CALLS = 512;
+    // Calls that are left behind the mixed ones are for a look at all that came of them.
+    private static final int RUNS = 1500, CALLS = 512, MIXED_CALLS = 440;
     private static final int[] ODD_INTS = {
         Integer.MIN_VALUE, Integer.MAX_VALUE, -2, -3, -1000, 100, 1000, 11, 12, 13, 40, 41, 127, 128};
     private static final long[] ODD_LONGS = {
@@ -62,8 +63,12 @@ public final class ModelTest {
         call++;
     }
 
+    private boolean goesOn() {
+        return call < MIXED_CALLS && !Checks.isWrong();
+    }
+
     private void feed(String text) {
-        for (int i = 0; i < text.length(); i++) {
+        for (int i = 0; i < text.length() && goesOn(); i++) {
             int sign = text.charAt(i);
             due("feed " + sign, x.feed(sign), m.feed(sign));
         }
@@ -119,14 +124,14 @@ public final class ModelTest {
     }
 
     private void spell(int c) {
-        if (m.kindOf(c) >= 0 && below(4) == 0) {
+        int kind = m.kindOf(c);
+        due("kindOf " + c, x.kindOf(c), kind);
+        if (kind >= 0 && below(4) == 0) {
             String spelling = m.spelling(c);
-            x.kindOf(c);
-            for (int i = -1; i <= spelling.length(); i += 1 + below(3)) {
+            for (int i = -1; i <= spelling.length() && goesOn(); i += 1 + below(3)) {
                 due("spelled", x.spelled(c, i), m.spelled(c, i));
             }
         } else {
-            x.kindOf(c);
             int i = below(60) - 1;
             due("spelled", x.spelled(c, i), m.spelled(c, i));
         }
@@ -299,7 +304,7 @@ public final class ModelTest {
         for (int i = 0; i < 3; i++) {
             read();
         }
-        while (call < CALLS && !Checks.isWrong()) {
+        while (goesOn()) {
             switch (below(4)) {
                 case 0: callOfTable(); break;
                 case 1: callOfViews(); break;
@@ -307,12 +312,19 @@ public final class ModelTest {
                 default: callOfTexts(); break;
             }
         }
+        lookAtAll();
+    }
+
+    private void lookAtAll() {
         for (int what = -1; what < 9; what++) {
             due("count " + what, x.count(what), m.count(what));
         }
         for (int c = 0; c < 12; c++) {
-            if (m.kindOf(c) >= 0) {
-                Checks.due("run " + run + ": column " + c, Checks.spelled(x, c), m.spelling(c));
+            int kind = m.kindOf(c);
+            due("kindOf " + c, x.kindOf(c), kind);
+            int length = kind < 0 ? 0 : m.spelling(c).length();
+            for (int i = 0; i < length && call + 12 < CALLS; i++) {
+                due("spelled " + c + " " + i, x.spelled(c, i), m.spelled(c, i));
             }
         }
     }

@@ -215,7 +215,12 @@ public final class TextsTest {
         for (int r = 0; r < 40; r++) {
             text.append(r == 0 ? "l" : ",l").append(Long.MIN_VALUE + r % 8);
         }
-        Checks.due("30: the longest", Checks.spelled(x, 3), text.append(')').toString());
+        text.append(')');
+        // Some signs, as an object is used for 512 calls at most.
+        for (int i = text.length() - 1; i >= 0; i -= 3) {
+            Checks.due("30: the longest at " + i, x.spelled(3, i), text.charAt(i));
+        }
+        Checks.due("30: behind the longest", x.spelled(3, text.length()), -5);
     }
 
     private static void image() {
