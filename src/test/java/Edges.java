@@ -33,11 +33,15 @@ abstract class Edges {
 
     private static String sentence = "";
 
-    /** The tests that follow are of these words of a section of the document. */
-    static void says(String section, String words) {
+    /** The tests that follow are of these words of a section of the document, and of the promises told. */
+    static void says(String section, String words, int... promises) {
         Doc.quote(section, words);
         boolean isPromise = Character.isDigit(section.charAt(0));
-        sentence = (isPromise ? "promise " : "") + section + " (" + words + "): ";
+        StringBuilder name = new StringBuilder(isPromise ? "promise " : "").append(section);
+        for (int promise : promises) {
+            name.append(", promise ").append(promise);
+        }
+        sentence = name + " (" + words + "): ";
     }
 
     static void due(String what, long got, long want) {

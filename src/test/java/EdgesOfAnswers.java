@@ -33,7 +33,7 @@ final class EdgesOfAnswers extends Edges {
     }
 
     private static void theFirstNamed() {
-        says("Answers", "NONE (-1) no such number; BAD (-2) a number is not as told; STATE (-3) as told; FULL (-4); the first that a call's words name");
+        says("Answers", "NONE (-1) no such number; BAD (-2) a number is not as told; STATE (-3) as told; FULL (-4); the first that a call's words name", 3, 6, 8, 9, 12, 15, 16, 17, 18, 22, 23, 24, 25, 27, 28);
         refuses("column: BAD, FULL", Edges::full, x -> x.column(11), BAD);
         refuses("ask: COLUMN, BAD", x -> x.ask(GONE, 3, 9), OTHER);
         refuses("ask: BAD, BEYOND", x -> x.ask(LONGS, 3, 9), BAD);
@@ -66,7 +66,7 @@ final class EdgesOfAnswers extends Edges {
     }
 
     private static void refusedChangesNothing() {
-        says("Answers", "What is answered so, refused or OVER, changes nothing (GOT neither) but count(4) to (6)");
+        says("Answers", "What is answered so, refused or OVER, changes nothing (GOT neither) but count(4) to (6)", 2, 3, 6, 14, 17, 24, 27);
         refuses("NONE", x -> x.viewed(0, 3), NONE);
         refuses("BAD", x -> x.size(41), BAD);
         refuses("STATE", () -> table(3, "i(3,2,1)"), x -> x.sort(0), STATE);
@@ -88,7 +88,7 @@ final class EdgesOfAnswers extends Edges {
     }
 
     private static void askedChangesNothing() {
-        says("Answers", "what is asked changes GOT alone, where so told");
+        says("Answers", "what is asked changes GOT alone, where so told", 5, 7, 11, 12, 14, 19, 20, 22, 23, 25, 26, 30, 33);
         asks("kindOf", x -> x.kindOf(BOXES), 8);
         asks("got", ColumnCasts::got, bits(2.0));
         asks("differs", x -> x.differs(1, 2), ANYS);
@@ -107,7 +107,7 @@ final class EdgesOfAnswers extends Edges {
     }
 
     private static void askedChangesGot() {
-        says("Answers", "what is asked changes GOT alone, where so told");
+        says("Answers", "what is asked changes GOT alone, where so told", 6, 24);
         ColumnCasts asked = busy();
         asked.ask(LONGS, 0, 5);
         due("got by ask", asked.got(), 3);
@@ -118,7 +118,7 @@ final class EdgesOfAnswers extends Edges {
     }
 
     private static void numbersAnew() {
-        says("Details", "COLUMNS that come have numbers anew, also behind a drop(); those that were dropped count among the 12");
+        says("Details", "COLUMNS that come have numbers anew, also behind a drop(); those that were dropped count among the 12", 3, 4, 29);
         ColumnCasts x = Checks.rows(1);
         for (int c = 0; c < 12; c++) {
             due("column, those ahead gone", c % 2 == 0 ? x.column(4) : Checks.read(x, "i(5)"), c);
@@ -134,7 +134,7 @@ final class EdgesOfAnswers extends Edges {
     }
 
     private static void likeDoubles() {
-        says("Details", "Of like DOUBLES of one KIND the lesser NUMBER is ahead");
+        says("Details", "Of like DOUBLES of one KIND the lesser NUMBER is ahead", 12, 17);
         long like = 1L << 53;
         ColumnCasts x = cells(new long[] {15, like + 1}, new long[] {15, like}, new long[] {15, MOST}, new long[] {15, MOST - 1},
             new long[] {15, LEAST + 1}, new long[] {15, LEAST});
@@ -156,7 +156,7 @@ final class EdgesOfAnswers extends Edges {
     }
 
     private static void rowsBehindKept() {
-        says("Details", "ROWS that come stand in a VIEW that was kept small, too");
+        says("Details", "ROWS that come stand in a VIEW that was kept small, too", 2, 15, 21);
         ColumnCasts x = table(3, "i(1,2,3)");
         x.keep(0, 0, 1, 4, 2);
         x.filter(0, 1, 4, 9);
@@ -173,7 +173,7 @@ final class EdgesOfAnswers extends Edges {
     }
 
     private static void keysOfGone() {
-        says("Details", "KEYS of COLUMNS that are GONE stay and count");
+        says("Details", "KEYS of COLUMNS that are GONE stay and count", 16, 17);
         ColumnCasts x = table(3, "i(3,2,1)", "i(1,3,2)");
         for (int k = 0; k < 4; k++) {
             x.key(0, false);
@@ -191,7 +191,7 @@ final class EdgesOfAnswers extends Edges {
     }
 
     private static void toldCells() {
-        says("Details", "A told CELL has to be right also where it does not matter");
+        says("Details", "A told CELL has to be right also where it does not matter", 15, 18);
         for (int test = 0; test < 6; test++) {
             int told = test;
             for (int kind : new int[] {-1, 8, 9, 11, MIN, MAX}) {
@@ -208,7 +208,7 @@ final class EdgesOfAnswers extends Edges {
     }
 
     private static void orderOfNone() {
-        says("Details", "order() of no FILTERS is 0");
+        says("Details", "order() of no FILTERS is 0", 19);
         ColumnCasts x = Checks.rows(40);
         for (int view = 0; view < 2; view++) {
             due("cells, view " + view, x.order(view, -1), 0);
@@ -223,7 +223,7 @@ final class EdgesOfAnswers extends Edges {
     }
 
     private static void nothingIsOneGroup() {
-        says("Details", "NOTHING is one GROUP");
+        says("Details", "NOTHING is one GROUP", 23, 24);
         for (String letter : new String[] {"w", "o", "n"}) {
             due("all of kind " + letter, Checks.grouped(table(40, letter + "()"), 0, 0), "1 0x40");
         }
@@ -243,7 +243,7 @@ final class EdgesOfAnswers extends Edges {
     }
 
     private static void overOnTheWay() {
-        says("Details", "A SUM is OVER if it is so on the way");
+        says("Details", "A SUM is OVER if it is so on the way", 24);
         due("above, then back", threeLongs(MOST, 1, -1).sum(0, 0, 0, 1), OVER);
         due("below, then back", threeLongs(LEAST, -1, 1).sum(0, 0, 0, 1), OVER);
         due("at the end alone", threeLongs(MOST - 1, 1, 1).sum(0, 0, 0, 1), OVER);
@@ -264,7 +264,7 @@ final class EdgesOfAnswers extends Edges {
     }
 
     private static void withoutRows() {
-        says("Details", "Without ROWS each CAST can be; in a TEXT the first ITEM is the FAULT then");
+        says("Details", "Without ROWS each CAST can be; in a TEXT the first ITEM is the FAULT then", 25, 26, 27);
         for (int from = 0; from < 11; from++) {
             ColumnCasts x = new ColumnCasts();
             x.column(from);
@@ -284,7 +284,7 @@ final class EdgesOfAnswers extends Edges {
     }
 
     private static void textsWithoutRows() {
-        says("Details", "Without ROWS each CAST can be; in a TEXT the first ITEM is the FAULT then");
+        says("Details", "Without ROWS each CAST can be; in a TEXT the first ITEM is the FAULT then", 29);
         String[] items = {"1", "1", "1", "1", "1", "1", "1", "1", "1", "i1", "a"};
         for (int kind = 0; kind < 11; kind++) {
             char letter = "zbcsilfdwon".charAt(kind);
@@ -298,7 +298,7 @@ final class EdgesOfAnswers extends Edges {
     }
 
     private static void notAheadOfLike() {
-        says("Details", "of(c, 2) counts like ones, too");
+        says("Details", "of(c, 2) counts like ones, too", 12);
         due("40 like ones", table(40, "i()").of(0, 2), 39);
         due("two of nothing", table(2, "w()").of(0, 2), 1);
         due("two of one word", table(2, "n(ab,ab)").of(0, 2), 1);
@@ -309,7 +309,7 @@ final class EdgesOfAnswers extends Edges {
     }
 
     private static void behindUndo() {
-        says("Details", "What was refused counts on, and GOT stays, behind undo()");
+        says("Details", "What was refused counts on, and GOT stays, behind undo()", 32, 7, 33);
         ColumnCasts x = busy();
         x.image();
         x.ask(LONGS, 0, 5);

@@ -31,7 +31,7 @@ final class EdgesOfCells extends Edges {
     }
 
     private static void rows() {
-        says("T1", "THE TABLE has ROWS 0, 1, .. (40 at most, none at first)");
+        says("T1", "THE TABLE has ROWS 0, 1, .. (40 at most, none at first)", 2);
         ColumnCasts x = new ColumnCasts();
         x.column(4);
         due("rows at first", x.count(0), 0);
@@ -48,7 +48,7 @@ final class EdgesOfCells extends Edges {
     }
 
     private static void columns() {
-        says("T1", "COLUMNS 0 .. 11, as they come, each of a KIND, with a CELL for each ROW");
+        says("T1", "COLUMNS 0 .. 11, as they come, each of a KIND, with a CELL for each ROW", 3);
         ColumnCasts x = Checks.rows(40);
         for (int c = 0; c < 12; c++) {
             due("column that comes", x.column(c % 11), c);
@@ -65,7 +65,7 @@ final class EdgesOfCells extends Edges {
     }
 
     private static void kinds() {
-        says("T1", "KINDS: 0 BOOLEAN, 1 BYTE, 2 CHAR, 3 SHORT, 4 INT, 5 LONG, 6 FLOAT, 7 DOUBLE, as Java has them");
+        says("T1", "KINDS: 0 BOOLEAN, 1 BYTE, 2 CHAR, 3 SHORT, 4 INT, 5 LONG, 6 FLOAT, 7 DOUBLE, as Java has them", 3, 8);
         for (int kind = 0; kind < 6; kind++) {
             for (long end : ENDS[kind]) {
                 ColumnCasts x = one(kind);
@@ -84,7 +84,7 @@ final class EdgesOfCells extends Edges {
     }
 
     private static void boxed() {
-        says("T1", "8 BOXED: NOTHING, or a BOX of KIND 4");
+        says("T1", "8 BOXED: NOTHING, or a BOX of KIND 4", 8);
         ColumnCasts x = one(8);
         holds("a new one", x, 0, 0, 99, 0);
         for (int end : new int[] {MIN, MAX}) {
@@ -101,7 +101,7 @@ final class EdgesOfCells extends Edges {
     }
 
     private static void any() {
-        says("T1", "9 ANY: NOTHING, a BOX of a KIND 0 .. 7, or a WORD (1 or 2 letters a .. z)");
+        says("T1", "9 ANY: NOTHING, a BOX of a KIND 0 .. 7, or a WORD (1 or 2 letters a .. z)", 8);
         ColumnCasts x = one(9);
         holds("a new one", x, 0, 0, 99, 0);
         for (int kind = 0; kind < 6; kind++) {
@@ -123,7 +123,7 @@ final class EdgesOfCells extends Edges {
     }
 
     private static void notes() {
-        says("T1", "10 NOTES: NOTHING, or a WORD");
+        says("T1", "10 NOTES: NOTHING, or a WORD", 8);
         ColumnCasts x = one(10);
         holds("a new one", x, 0, 0, 99, 0);
         for (int v : new int[] {1, 26, 27, 702}) {
@@ -139,7 +139,7 @@ final class EdgesOfCells extends Edges {
     }
 
     private static void newCells() {
-        says("T1", "New CELLS hold 0 (BOOLEANS false), by KINDS 8 .. 10 NOTHING");
+        says("T1", "New CELLS hold 0 (BOOLEANS false), by KINDS 8 .. 10 NOTHING", 2, 3);
         ColumnCasts x = Checks.rows(1);
         for (int kind = 0; kind < 11; kind++) {
             x.column(kind);
@@ -154,7 +154,7 @@ final class EdgesOfCells extends Edges {
     }
 
     private static void newCellsBehindOld() {
-        says("T1", "New CELLS hold 0 (BOOLEANS false), by KINDS 8 .. 10 NOTHING");
+        says("T1", "New CELLS hold 0 (BOOLEANS false), by KINDS 8 .. 10 NOTHING", 2);
         String[] texts = {"z(1,1)", "b(7,7)", "c(7,7)", "s(7,7)", "i(7,7)", "l(7,7)", "f(7,7)", "d(7,7)", "w(7,7)", "o(i7,'a)", "n(a,a)"};
         ColumnCasts x = table(2, texts);
         x.size(1);
@@ -169,7 +169,7 @@ final class EdgesOfCells extends Edges {
     }
 
     private static void notThereAndGone() {
-        says("T1", "A COLUMN that didn't come yet is NOT THERE; one that was dropped is GONE (its number is of none any more)");
+        says("T1", "A COLUMN that didn't come yet is NOT THERE; one that was dropped is GONE (its number is of none any more)", 3, 4);
         ColumnCasts x = new ColumnCasts();
         due("column 0 ahead of all", x.kindOf(0), NOTHING);
         x.column(3);
@@ -185,7 +185,7 @@ final class EdgesOfCells extends Edges {
     }
 
     private static void refusedColumns() {
-        says("T1", "A call that is told a COLUMN refuses, in this order: NONE: no number 0 .. 11; NOTHING (-23): it is NOT THERE; OTHER (-22): it is GONE");
+        says("T1", "A call that is told a COLUMN refuses, in this order: NONE: no number 0 .. 11; NOTHING (-23): it is NOT THERE; OTHER (-22): it is GONE", 4, 5, 6, 8, 12, 15, 16, 18, 23, 25, 26, 27, 30);
         refusesColumns("drop", (x, c) -> x.drop(c));
         refusesColumns("kindOf", (x, c) -> x.kindOf(c));
         refusesColumns("ask", (x, c) -> x.ask(c, 0, 8));
@@ -217,14 +217,14 @@ final class EdgesOfCells extends Edges {
     }
 
     private static void refusedFirstAndSecond() {
-        says("T1", "A call that is told a COLUMN refuses, in this order: NONE: no number 0 .. 11; NOTHING (-23): it is NOT THERE; OTHER (-22): it is GONE");
+        says("T1", "A call that is told a COLUMN refuses, in this order: NONE: no number 0 .. 11; NOTHING (-23): it is NOT THERE; OTHER (-22): it is GONE", 9, 22, 24);
         refusesBoth("bring", (x, c, d) -> x.bring(c, 0, d, 1, 1));
         refusesBoth("pair", (x, c, d) -> x.pair(c, d, -1));
         refusesBoth("sum", (x, c, d) -> x.sum(0, c, 0, d));
     }
 
     private static void number() {
-        says("T1", "NUMBER of a BOX: BOOLEAN 1, 0; BYTE, CHAR, SHORT, INT, LONG as it is; FLOAT its bits (an int's), DOUBLE its bits");
+        says("T1", "NUMBER of a BOX: BOOLEAN 1, 0; BYTE, CHAR, SHORT, INT, LONG as it is; FLOAT its bits (an int's), DOUBLE its bits", 6, 7);
         for (int kind = 0; kind < 6; kind++) {
             for (long end : ENDS[kind]) {
                 holds("kind " + kind, cells(new long[] {10 + kind, end}), 0, 0, 100 + kind, end);
@@ -242,7 +242,7 @@ final class EdgesOfCells extends Edges {
     }
 
     private static void made() {
-        says("T1", "A BOX of a KIND MADE of a long v: BOOLEAN whether v is odd; BYTE, CHAR, SHORT, INT its lowest bits; LONG v");
+        says("T1", "A BOX of a KIND MADE of a long v: BOOLEAN whether v is odd; BYTE, CHAR, SHORT, INT its lowest bits; LONG v", 8);
         long[][] booleans = {{0, 0}, {1, 1}, {2, 0}, {-1, 1}, {-2, 0}, {MOST, 1}, {LEAST, 0}};
         long[][] bytes = {{127, 127}, {128, -128}, {-128, -128}, {-129, 127}, {255, -1}, {256, 0}, {MOST, -1}, {LEAST, 0}};
         long[][] chars = {{0, 0}, {-1, 65535}, {65535, 65535}, {65536, 0}, {MOST, 65535}, {LEAST, 0}};
@@ -258,7 +258,7 @@ final class EdgesOfCells extends Edges {
     }
 
     private static void madeToTheNearest() {
-        says("T1", "FLOAT, DOUBLE what is nearest to v, and a quarter of that");
+        says("T1", "FLOAT, DOUBLE what is nearest to v, and a quarter of that", 8);
         long float24 = 1L << 24;
         long double53 = 1L << 53;
         madeOf(6, 0, 0);
@@ -282,7 +282,7 @@ final class EdgesOfCells extends Edges {
     }
 
     private static void madeWords() {
-        says("T1", "A WORD MADE of v: 1 .. 26 one letter, 27 .. 702 two: those of (v less 27) by 26 (cut, a is 0) and of its rest");
+        says("T1", "A WORD MADE of v: 1 .. 26 one letter, 27 .. 702 two: those of (v less 27) by 26 (cut, a is 0) and of its rest", 8, 29, 30);
         int[] numbers = {1, 2, 26, 27, 28, 52, 53, 676, 677, 701, 702};
         String[] words = {"a", "b", "z", "aa", "ab", "az", "ba", "yz", "za", "zy", "zz"};
         for (int i = 0; i < numbers.length; i++) {
@@ -297,7 +297,7 @@ final class EdgesOfCells extends Edges {
     }
 
     private static void widened() {
-        says("T1", "A KIND WIDENS to itself; BYTE to SHORT, INT, LONG, FLOAT, DOUBLE; CHAR and SHORT to INT, LONG, FLOAT, DOUBLE;");
+        says("T1", "A KIND WIDENS to itself; BYTE to SHORT, INT, LONG, FLOAT, DOUBLE; CHAR and SHORT to INT, LONG, FLOAT, DOUBLE;", 6, 8);
         for (int from = 0; from < 8; from++) {
             for (int to = 0; to < 8; to++) {
                 due("ask of " + from + " as " + to, one(from).ask(0, 0, to), widens(from, to) ? 1 : OTHER);
@@ -332,7 +332,7 @@ final class EdgesOfCells extends Edges {
     }
 
     private static void widenedToTheNearest() {
-        says("T1", "(to the nearest, where it can't be as it is)");
+        says("T1", "(to the nearest, where it can't be as it is)", 6, 8);
         askedAs(4, 1 << 24, 6, bits(16777216f));
         askedAs(4, (1 << 24) + 1, 6, bits(16777216f));
         askedAs(4, (1 << 24) + 3, 6, bits(16777220f));
@@ -354,7 +354,7 @@ final class EdgesOfCells extends Edges {
     }
 
     private static void asked() {
-        says("T1", "To ASK a CELL as KIND 0 .. 7: refused, behind the COLUMN, the first that fits");
+        says("T1", "To ASK a CELL as KIND 0 .. 7: refused, behind the COLUMN, the first that fits", 6);
         for (int kind = 0; kind < 11; kind++) {
             ColumnCasts x = Checks.rows(2);
             x.column(kind);
@@ -374,7 +374,7 @@ final class EdgesOfCells extends Edges {
     }
 
     private static void askedWidened() {
-        says("T1", "Else GOT is the NUMBER of what it WIDENS to");
+        says("T1", "Else GOT is the NUMBER of what it WIDENS to", 6, 7);
         askedAs(0, 1, 0, 1);
         askedAs(0, 0, 0, 0);
         askedAs(1, -128, 3, -128);
@@ -390,7 +390,7 @@ final class EdgesOfCells extends Edges {
     }
 
     private static void askedAsItIs() {
-        says("T1", "As 8: BEYOND; GOT is the NUMBER of a BOX, 0 for NOTHING, for a WORD that of which it is MADE");
+        says("T1", "As 8: BEYOND; GOT is the NUMBER of a BOX, 0 for NOTHING, for a WORD that of which it is MADE", 6, 7);
         for (int kind = 0; kind < 11; kind++) {
             ColumnCasts x = Checks.rows(2);
             x.column(kind);
@@ -407,7 +407,7 @@ final class EdgesOfCells extends Edges {
     }
 
     private static void written() {
-        says("T1", "To WRITE, as KIND 0 .. 7, a BOX of that KIND MADE of v: refused likewise, OTHER last");
+        says("T1", "To WRITE, as KIND 0 .. 7, a BOX of that KIND MADE of v: refused likewise, OTHER last", 8);
         for (int kind = 0; kind < 11; kind++) {
             ColumnCasts x = Checks.rows(2);
             x.column(kind);
@@ -423,7 +423,7 @@ final class EdgesOfCells extends Edges {
     }
 
     private static void writtenBoxes() {
-        says("T1", "As 10 and KIND 0 .. 7, a BOX of that KIND into any COLUMN: BEYOND; OTHER");
+        says("T1", "As 10 and KIND 0 .. 7, a BOX of that KIND into any COLUMN: BEYOND; OTHER", 8);
         for (int kind = 0; kind < 11; kind++) {
             ColumnCasts x = Checks.rows(2);
             x.column(kind);
@@ -444,7 +444,7 @@ final class EdgesOfCells extends Edges {
     }
 
     private static void writtenNothingAndWords() {
-        says("T1", "As 18 NOTHING, as 19 a WORD MADE of v: OTHER: the COLUMN's KIND is 0 .. 7; BEYOND; OTHER: a WORD, by KIND 8");
+        says("T1", "As 18 NOTHING, as 19 a WORD MADE of v: OTHER: the COLUMN's KIND is 0 .. 7; BEYOND; OTHER: a WORD, by KIND 8", 8);
         for (int kind = 0; kind < 11; kind++) {
             ColumnCasts x = Checks.rows(2);
             x.column(kind);

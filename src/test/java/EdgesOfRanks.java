@@ -46,7 +46,7 @@ final class EdgesOfRanks extends Edges {
     }
 
     private static void ranked() {
-        says("T2", "RANK of CELLS: BOOLEANS (false ahead of true), then numbers (KINDS 1 .. 7: as DOUBLES, the lesser ahead;");
+        says("T2", "RANK of CELLS: BOOLEANS (false ahead of true), then numbers (KINDS 1 .. 7: as DOUBLES, the lesser ahead;", 12);
         for (int i = 0; i < RANKED.length; i++) {
             for (int j = 0; j < RANKED.length; j++) {
                 due(told(RANKED[i]) + " ahead of " + told(RANKED[j]), isAhead(RANKED[i], RANKED[j]) ? 1 : 0, i < j ? 1 : 0);
@@ -56,7 +56,7 @@ final class EdgesOfRanks extends Edges {
 
     /** Floats and doubles as large as a long's come by a cast alone. */
     private static void rankedAlike() {
-        says("T2", "of like ones the lesser KIND; of one KIND the lesser), then WORDS (as in a book), then NOTHING");
+        says("T2", "of like ones the lesser KIND; of one KIND the lesser), then WORDS (as in a book), then NOTHING", 12);
         ColumnCasts x = Checks.rows(3);
         for (int kind = 5; kind < 8; kind++) {
             x.column(kind);
@@ -85,7 +85,7 @@ final class EdgesOfRanks extends Edges {
     }
 
     private static void same() {
-        says("T2", "SAME: both NOTHING, BOXES of one KIND and NUMBER, one WORD");
+        says("T2", "SAME: both NOTHING, BOXES of one KIND and NUMBER, one WORD", 11, 12, 23);
         for (int i = 0; i < RANKED.length; i++) {
             for (int j = 0; j <= i; j++) {
                 due(told(RANKED[i]) + " and " + told(RANKED[j]) + ", same", isSame(RANKED[i], RANKED[j]), i == j ? 1 : 0);
@@ -117,7 +117,7 @@ final class EdgesOfRanks extends Edges {
     }
 
     private static void fit() {
-        says("T2", "FIT: two BOOLEANS that are SAME; numbers, both of KINDS 1 .. 5 by their NUMBERS, else as DOUBLES, alike; one WORD");
+        says("T2", "FIT: two BOOLEANS that are SAME; numbers, both of KINDS 1 .. 5 by their NUMBERS, else as DOUBLES, alike; one WORD", 15, 22);
         long[][][] fitting = {
             {{10, 1}, {10, 3}}, {{10, 0}, {10, 2}}, {{11, -1}, {15, -1}}, {{12, 65535}, {14, 65535}}, {{13, 5}, {12, 5}},
             {{14, MIN}, {15, MIN}}, {{14, 1}, {16, 4}}, {{14, 1}, {17, 4}}, {{16, 1}, {17, 1}}, {{15, TWO53 + 1}, {17, TWO53 << 2}},
@@ -135,7 +135,7 @@ final class EdgesOfRanks extends Edges {
     }
 
     private static void fitNothing() {
-        says("T2", "(NOTHING fits nothing.)");
+        says("T2", "(NOTHING fits nothing.)", 22);
         for (long[] each : RANKED) {
             fitting(each, new long[] {NOUGHT, 0}, 0);
         }
@@ -145,7 +145,7 @@ final class EdgesOfRanks extends Edges {
     }
 
     private static void views() {
-        says("T2", "VIEWS 0, 1: ROWS in some order, each once at most (at first, as they come, all of them)");
+        says("T2", "VIEWS 0, 1: ROWS in some order, each once at most (at first, as they come, all of them)", 13, 14);
         ColumnCasts x = new ColumnCasts();
         due("view 0 of no rows", x.viewed(0, -1), 0);
         due("view 1 of no rows", x.viewed(1, -1), 0);
@@ -162,7 +162,7 @@ final class EdgesOfRanks extends Edges {
     }
 
     private static void keys() {
-        says("T2", "KEYS (4 at most, none at first): a COLUMN, turned or not");
+        says("T2", "KEYS (4 at most, none at first): a COLUMN, turned or not", 16);
         ColumnCasts x = table(2, "i(1,2)");
         due("keys at first", x.count(2), 0);
         due("sort by none", x.sort(0), STATE);
@@ -175,7 +175,7 @@ final class EdgesOfRanks extends Edges {
     }
 
     private static void sortedBySeveral() {
-        says("T2", "if by the first KEY by which they aren't of one RANK it has the CELL that is ahead");
+        says("T2", "if by the first KEY by which they aren't of one RANK it has the CELL that is ahead", 17);
         ColumnCasts x = table(6, "i(1,1,1,1,1,0)", "o(i1,l1,i1,i1,l1,i9)", "n(b,a,a,a,a,z)", "z(0,0,1,0,0,1)");
         for (int c = 0; c < 4; c++) {
             x.key(c, false);
@@ -192,7 +192,7 @@ final class EdgesOfRanks extends Edges {
     }
 
     private static void sortedTurned() {
-        says("T2", "(turned: the other way about); where there is none such they stand as they did");
+        says("T2", "(turned: the other way about); where there is none such they stand as they did", 17);
         ColumnCasts x = table(6, "o(_,'a,i1,z1,i1,_)");
         x.key(0, true);
         due("elsewhere", x.sort(0), 4);
@@ -208,7 +208,7 @@ final class EdgesOfRanks extends Edges {
     }
 
     private static void sortedByGone() {
-        says("T2", "A KEY of a COLUMN that is GONE is passed over");
+        says("T2", "A KEY of a COLUMN that is GONE is passed over", 17);
         ColumnCasts x = table(3, "i(1,2,3)", "i(3,2,1)");
         x.key(0, true);
         x.key(1, false);
@@ -232,7 +232,7 @@ final class EdgesOfRanks extends Edges {
     }
 
     private static void testsAround() {
-        says("T2", "A TEST of a CELL by a told one (a BOX of a KIND 0 .. 7, or by 10 a WORD, MADE of v): 0 it is less, 1 it FITS,");
+        says("T2", "A TEST of a CELL by a told one (a BOX of a KIND 0 .. 7, or by 10 a WORD, MADE of v): 0 it is less, 1 it FITS,", 15);
         int less = 0b010001, fits = 0b010010, more = 0b010100, same = 0b110010;
         long[][] tests = {
             {10, 0, 0, 1, less}, {10, 1, 0, 1, same}, {10, 0, 0, 0, same}, {10, 1, 0, 0, more}, {10, 1, 0, -1, same},
@@ -252,7 +252,7 @@ final class EdgesOfRanks extends Edges {
     }
 
     private static void testsOfUnlikes() {
-        says("T2", "(0, 2: two BOOLEANS, numbers as for FIT, or WORDS; else it isn't so)");
+        says("T2", "(0, 2: two BOOLEANS, numbers as for FIT, or WORDS; else it isn't so)", 15);
         int isFull = 0b010000;
         for (int kind = 1; kind < 8; kind++) {
             due("true by kind " + kind, stood(new long[] {10, 1}, kind, 0), isFull);
@@ -265,7 +265,7 @@ final class EdgesOfRanks extends Edges {
     }
 
     private static void testsOfNothingAndSame() {
-        says("T2", "3 it is NOTHING, 4 it isn't, 5 it is SAME");
+        says("T2", "3 it is NOTHING, 4 it isn't, 5 it is SAME", 15);
         for (int kind = 0; kind < 8; kind++) {
             due("nothing by kind " + kind, stood(new long[] {NOUGHT, 0}, kind, 0), 0b001000);
             due("0 by kind " + kind, stood(new long[] {10 + kind, 0}, kind, 0), 0b110010);
@@ -279,7 +279,7 @@ final class EdgesOfRanks extends Edges {
     }
 
     private static void filters() {
-        says("T2", "FILTERS 0 .. 5, as they come: a COLUMN, a TEST, a told CELL");
+        says("T2", "FILTERS 0 .. 5, as they come: a COLUMN, a TEST, a told CELL", 18);
         ColumnCasts x = table(3, "i(1,2,3)");
         due("none at first", x.count(3), 0);
         due("none run", x.run(0), 3);
@@ -298,7 +298,7 @@ final class EdgesOfRanks extends Edges {
     }
 
     private static void filtersOfGone() {
-        says("T2", "(of a COLUMN that is GONE no ROW is so, they are LOOKED at all the same)");
+        says("T2", "(of a COLUMN that is GONE no ROW is so, they are LOOKED at all the same)", 19, 20, 21);
         for (int test = 0; test < 6; test++) {
             ColumnCasts x = table(3, "w(1,_,3)", "i()");
             x.filter(0, test, 4, 3);
@@ -314,7 +314,7 @@ final class EdgesOfRanks extends Edges {
     }
 
     private static void looks() {
-        says("T2", "Done on a VIEW in an order, one behind the other, each LOOKS at the CELLS of ROWS that are left by those ahead");
+        says("T2", "Done on a VIEW in an order, one behind the other, each LOOKS at the CELLS of ROWS that are left by those ahead", 20);
         ColumnCasts x = table(5, "i(1,2,3,4,5)");
         due("by no filter", x.looked(0), 0);
         x.filter(0, 4, 4, 0);
@@ -331,7 +331,7 @@ final class EdgesOfRanks extends Edges {
     }
 
     private static void bestOrder() {
-        says("T2", "fewest CELLS are LOOKED at, of several that of which the first is least, then the second, and so on");
+        says("T2", "fewest CELLS are LOOKED at, of several that of which the first is least, then the second, and so on", 19);
         ColumnCasts x = Checks.rows(0);
         x.column(4);
         for (int f = 0; f < 6; f++) {
@@ -354,7 +354,7 @@ final class EdgesOfRanks extends Edges {
     }
 
     private static void pairs() {
-        says("T2", "PAIRS of COLUMNS c and d: for each ROW of VIEW 0, in its order, each one of VIEW 1, in its order");
+        says("T2", "PAIRS of COLUMNS c and d: for each ROW of VIEW 0, in its order, each one of VIEW 1, in its order", 22);
         ColumnCasts x = table(40, "i()", "l()");
         due("40 by 40", x.pair(0, 1, -1), 1600);
         due("the first", x.pair(0, 1, 0), 0);
@@ -376,7 +376,7 @@ final class EdgesOfRanks extends Edges {
     }
 
     private static void groups() {
-        says("T2", "GROUPS of a COLUMN in a VIEW: ROWS whose CELLS are SAME; GROUPS in the order of their first ROWS");
+        says("T2", "GROUPS of a COLUMN in a VIEW: ROWS whose CELLS are SAME; GROUPS in the order of their first ROWS", 23);
         ColumnCasts x = table(40, "i()", "o()");
         due("40 like rows", Checks.grouped(x, 0, 0), "1 0x40");
         for (int r = 0; r < 40; r++) {
@@ -405,7 +405,7 @@ final class EdgesOfRanks extends Edges {
     }
 
     private static void sums() {
-        says("T2", "(others are passed over): all of KINDS 1 .. 5 (or none at all): as LONGS, from 0 on");
+        says("T2", "(others are passed over): all of KINDS 1 .. 5 (or none at all): as LONGS, from 0 on", 24);
         ColumnCasts x = table(5, "i()", "o(z1,'a,_,z1,'b)", "n(a,b)", "z(1,1,1)", "w(_,-7)", "o(b-1,c1,s2,i3,l4)", "b(1)", "i(2)", "i()");
         summed("none at all", x, 1, 5, 0);
         summed("of words", x, 2, 5, 0);
@@ -430,7 +430,7 @@ final class EdgesOfRanks extends Edges {
     }
 
     private static void sumsOver() {
-        says("T2", "OVER (-15): a sum on the way isn't a long's");
+        says("T2", "OVER (-15): a sum on the way isn't a long's", 24);
         summed("the most", longs(MOST - 1, 1), 1, 5, MOST);
         summed("the least", longs(LEAST + 1, -1), 1, 5, LEAST);
         summed("both ends", longs(LEAST, MOST), 1, 5, -1);
@@ -444,7 +444,7 @@ final class EdgesOfRanks extends Edges {
     }
 
     private static void sumsOfDoubles() {
-        says("T2", "else as DOUBLES, from 0 on");
+        says("T2", "else as DOUBLES, from 0 on", 24);
         ColumnCasts x = table(4, "i()", "o(i1,f1,'a,z1)", "o(d1,b-1)", "f(1,-1)", "d(-4)", "o(_,_,_,f0)");
         summed("an int and a float", x, 1, 7, bits(1.25));
         summed("a double and a byte", x, 2, 7, bits(-0.75));
@@ -468,7 +468,7 @@ final class EdgesOfRanks extends Edges {
     }
 
     private static void castBoxes() {
-        says("T2", "CAST of a BOX to a KIND 0 .. 7: as Java casts (to BYTE, CHAR, SHORT from FLOATS, DOUBLES by way of INT)");
+        says("T2", "CAST of a BOX to a KIND 0 .. 7: as Java casts (to BYTE, CHAR, SHORT from FLOATS, DOUBLES by way of INT)", 27);
         due("true", table(1, "z(1)").cast(0, 7), 0);
         String[][] casts = {
             {"z(1,0)", "1", "b(1,0)"}, {"z(1,0)", "2", "c(1,0)"}, {"z(1,0)", "4", "i(1,0)"}, {"z(1,0)", "6", "f(4,0)"}, {"z(1,0)", "7", "d(4,0)"},
@@ -488,7 +488,7 @@ final class EdgesOfRanks extends Edges {
     }
 
     private static void castCells() {
-        says("T2", "CAST of a CELL to a COLUMN's KIND: 0 .. 7: a BOX likewise; 8: to KIND 4, or NOTHING; 9: as it is; 10: a WORD, NOTHING");
+        says("T2", "CAST of a CELL to a COLUMN's KIND: 0 .. 7: a BOX likewise; 8: to KIND 4, or NOTHING; 9: as it is; 10: a WORD, NOTHING", 26, 27);
         back(new long[] {NOUGHT, 0}, 0b11100000000);
         back(new long[] {WORD, 1}, 0b11000000000);
         back(new long[] {WORD, 702}, 0b11000000000);
@@ -505,7 +505,7 @@ final class EdgesOfRanks extends Edges {
     }
 
     private static void comeBack() {
-        says("T2", "(Others can't be.) It COMES BACK, if it can be, and, a BOX, cast back to the KIND it had, has the NUMBER it had");
+        says("T2", "(Others can't be.) It COMES BACK, if it can be, and, a BOX, cast back to the KIND it had, has the NUMBER it had", 26);
         int wholes = 0b01111111110;
         back(new long[] {14, 127}, wholes);
         back(new long[] {14, 128}, wholes & ~0b10);

@@ -41,7 +41,7 @@ final class EdgesOfTexts extends Edges {
     }
 
     private static void kindsByLetter() {
-        says("T3", "A COLUMN is read from THE TEXT (bytes, 100 at most): a letter of z b c s i l f d (KINDS 0 .. 7 in this order), w (8), o (9), n (10)");
+        says("T3", "A COLUMN is read from THE TEXT (bytes, 100 at most): a letter of z b c s i l f d (KINDS 0 .. 7 in this order), w (8), o (9), n (10)", 29);
         ColumnCasts x = new ColumnCasts();
         for (int kind = 0; kind < 11; kind++) {
             due("read by letter " + LETTERS.charAt(kind), Checks.read(x, LETTERS.charAt(kind) + "()"), kind);
@@ -55,7 +55,7 @@ final class EdgesOfTexts extends Edges {
     }
 
     private static void items() {
-        says("T3", "( ITEMS ): none, or some with , between, no more than there are ROWS: of the first ROWS, others are as new ones");
+        says("T3", "( ITEMS ): none, or some with , between, no more than there are ROWS: of the first ROWS, others are as new ones", 29);
         String[] news = {"z(0,0,0)", "b(0,0,0)", "c(0,0,0)", "s(0,0,0)", "i(0,0,0)", "l(0,0,0)", "f(0,0,0)", "d(0,0,0)",
             "w(_,_,_)", "o(_,_,_)", "n(_,_,_)"};
         for (int kind = 0; kind < 11; kind++) {
@@ -82,7 +82,7 @@ final class EdgesOfTexts extends Edges {
     }
 
     private static void hundredBytes() {
-        says("T3", "(bytes, 100 at most)");
+        says("T3", "(bytes, 100 at most)", 28, 29);
         String text = "i(10" + ",10".repeat(17) + ",1".repeat(22) + ")";
         due("bytes", text.length(), 100);
         read(40, text, text);
@@ -98,7 +98,7 @@ final class EdgesOfTexts extends Edges {
     }
 
     private static void numbers() {
-        says("T3", "ITEM: of KINDS 0 .. 7 a number, perhaps -, 1 to 6 digits: MADE of it;");
+        says("T3", "ITEM: of KINDS 0 .. 7 a number, perhaps -, 1 to 6 digits: MADE of it;", 29);
         read(2, "i(0,9)", "i(0,9)");
         read(2, "i(-0,-9)", "i(0,-9)");
         read(2, "i(999999,-999999)", "i(999999,-999999)");
@@ -133,7 +133,7 @@ final class EdgesOfTexts extends Edges {
     }
 
     private static void numbersOfBoxes() {
-        says("T3", "ITEM: of KINDS 0 .. 7 a number, perhaps -, 1 to 6 digits: MADE of it;");
+        says("T3", "ITEM: of KINDS 0 .. 7 a number, perhaps -, 1 to 6 digits: MADE of it;", 29);
         numberOf("z(2)", 0, 0);
         numberOf("z(-1)", 0, 1);
         numberOf("z(999999)", 0, 1);
@@ -159,7 +159,7 @@ final class EdgesOfTexts extends Edges {
     }
 
     private static void words() {
-        says("T3", "of w _ (NOTHING) or a number; of n _ or 1 or 2 letters a .. z;");
+        says("T3", "of w _ (NOTHING) or a number; of n _ or 1 or 2 letters a .. z;", 29);
         read(3, "w(_,5,-999999)", "w(_,5,-999999)");
         read(1, "w(_)", "w(_)");
         fault(2, "w(__)", 3);
@@ -189,7 +189,7 @@ final class EdgesOfTexts extends Edges {
     }
 
     private static void any() {
-        says("T3", "of o _, a letter of z b c s i l f d and a number, or ' and 1 or 2 letters");
+        says("T3", "of o _, a letter of z b c s i l f d and a number, or ' and 1 or 2 letters", 29);
         for (int kind = 0; kind < 8; kind++) {
             String item = NUMBERED.charAt(kind) + "1";
             read(2, "o(" + item + ",_)", "o(" + item + ",_)");
@@ -213,7 +213,7 @@ final class EdgesOfTexts extends Edges {
     }
 
     private static void blanks() {
-        says("T3", "No blanks");
+        says("T3", "No blanks", 29);
         String text = "o(i-12,'ab,_)";
         for (char blank : new char[] {' ', '\t', '\n', '\r', 0}) {
             for (int k = 0; k <= text.length(); k++) {
@@ -227,7 +227,7 @@ final class EdgesOfTexts extends Edges {
     }
 
     private static void faultsOfEarlyEnds() {
-        says("T3", "(the end of THE TEXT, if it ends too early;");
+        says("T3", "(the end of THE TEXT, if it ends too early;", 29);
         fault(3, "", 0);
         for (String text : new String[] {"i(1,-234567)", "w(_,-5)", "o(_,d-1,'ab)", "n(_,ab,c)", "f()"}) {
             for (int k = 0; k < text.length(); k++) {
@@ -239,7 +239,7 @@ final class EdgesOfTexts extends Edges {
     }
 
     private static void faultsOfBytes() {
-        says("T3", "The FAULT: the place of the first byte with which none begins so");
+        says("T3", "The FAULT: the place of the first byte with which none begins so", 29);
         for (String text : new String[] {"i(1,-234567)", "w(_,-5)", "o(_,d-1,'ab)", "n(_,ab,c)", "f()"}) {
             for (int k = 0; k < text.length(); k++) {
                 fault(3, text.substring(0, k) + '!' + text.substring(k + 1), k);
@@ -261,7 +261,7 @@ final class EdgesOfTexts extends Edges {
     }
 
     private static void faultsOfTooMany() {
-        says("T3", "a , with which there would be too many: its own)");
+        says("T3", "a , with which there would be too many: its own)", 29);
         fault(1, "i(1,", 3);
         fault(1, "i(1,!", 3);
         fault(2, "i(1,2,3)", 5);
@@ -277,7 +277,7 @@ final class EdgesOfTexts extends Edges {
     }
 
     private static void faultsBehindTheEnd() {
-        says("T3", "The FAULT: the place of the first byte with which none begins so");
+        says("T3", "The FAULT: the place of the first byte with which none begins so", 29);
         fault(3, "i())", 3);
         fault(3, "i(1)i(2)", 4);
         fault(3, "i(1),", 4);
@@ -288,7 +288,7 @@ final class EdgesOfTexts extends Edges {
     }
 
     private static void spelled() {
-        says("T3", "SPELLED: the TEXT of a COLUMN with all CELLS, numbers without 0 ahead:");
+        says("T3", "SPELLED: the TEXT of a COLUMN with all CELLS, numbers without 0 ahead:", 30);
         for (int kind = 0; kind < 11; kind++) {
             String letter = String.valueOf(LETTERS.charAt(kind));
             due("kind " + kind + " of no rows", Checks.spelled(table(0, letter + "()"), 0), letter + "()");
@@ -318,7 +318,7 @@ final class EdgesOfTexts extends Edges {
     }
 
     private static void spelledNumbers() {
-        says("T3", "FLOATS, DOUBLES four times, cast to a long, others the NUMBER");
+        says("T3", "FLOATS, DOUBLES four times, cast to a long, others the NUMBER", 30);
         spelledBox(0, 1, "z1");
         spelledBox(0, 2, "z0");
         spelledBox(1, 127, "b127");
@@ -336,7 +336,7 @@ final class EdgesOfTexts extends Edges {
     }
 
     private static void spelledReals() {
-        says("T3", "FLOATS, DOUBLES four times, cast to a long, others the NUMBER");
+        says("T3", "FLOATS, DOUBLES four times, cast to a long, others the NUMBER", 30);
         for (int kind = 6; kind < 8; kind++) {
             String letter = String.valueOf(LETTERS.charAt(kind));
             spelledBox(kind, 0, letter + "0");
@@ -365,7 +365,7 @@ final class EdgesOfTexts extends Edges {
     }
 
     private static void spelledOfAllRows() {
-        says("T3", "SPELLED: the TEXT of a COLUMN with all CELLS, numbers without 0 ahead:");
+        says("T3", "SPELLED: the TEXT of a COLUMN with all CELLS, numbers without 0 ahead:", 30);
         ColumnCasts x = Checks.rows(20);
         x.column(9);
         for (int r = 0; r < 20; r++) {
@@ -394,7 +394,7 @@ final class EdgesOfTexts extends Edges {
     }
 
     private static void imaged() {
-        says("T3", "THE IMAGE: THE TABLE, VIEWS, KEYS, FILTERS");
+        says("T3", "THE IMAGE: THE TABLE, VIEWS, KEYS, FILTERS", 31, 32);
         String state = State.ofTable(busy());
         undone("rows less", x -> x.size(1), state);
         undone("no rows", x -> x.size(0), state);
@@ -432,7 +432,7 @@ final class EdgesOfTexts extends Edges {
     }
 
     private static void imagedWithout() {
-        says("T3", "THE IMAGE: THE TABLE, VIEWS, KEYS, FILTERS");
+        says("T3", "THE IMAGE: THE TABLE, VIEWS, KEYS, FILTERS", 32);
         ColumnCasts x = table(2, "i(1,2)");
         Checks.feed(x, "i(3");
         x.ask(0, 1, 4);
