@@ -251,6 +251,7 @@ final class EdgesOfAnswers extends Edges {
         due("never", threeLongs(MOST, -1, 1).sum(0, 0, 0, 1), 5);
         due("never below", threeLongs(LEAST, 1, -1).sum(0, 0, 0, 1), 5);
         due("over twice, as if it were right", threeLongs(MOST, MOST, 2).sum(0, 0, 0, 1), OVER);
+        due("over by each bit", threeLongs(0x5555555555555555L, 0x5555555555555555L, 0).sum(0, 0, 0, 1), OVER);
         ColumnCasts x = threeLongs(MOST, 1, -1);
         x.key(1, false);
         x.sort(0);

@@ -1,3 +1,7 @@
+import java.util.ArrayList;
+import java.util.Collections;
+import java.util.List;
+
 /** Terms 2: ranks, what fits and is the same, views, keys, tests, filters, pairs, groups, sums, casts. */
 final class EdgesOfRanks extends Edges {
     private static final long TWO53 = 1L << 53;
@@ -10,12 +14,14 @@ final class EdgesOfRanks extends Edges {
         {11, 127}, {12, 65535}, {14, 65535}, {14, MAX}, {15, MAX}, {17, 4L * MAX}, {15, MAX + 1L},
         {15, TWO53}, {15, TWO53 + 1}, {16, TWO53 << 2}, {17, TWO53 << 2}, {15, TWO53 + 2},
         {16, MOST}, {17, MOST}, {15, MOST - 1}, {15, MOST},
-        {WORD, 1}, {WORD, 27}, {WORD, 52}, {WORD, 2}, {WORD, 53}, {WORD, 26}, {WORD, 677}, {WORD, 702}, {NOUGHT, 0}};
+        {WORD, 1}, {WORD, 27}, {WORD, 52}, {WORD, 2}, {WORD, 53}, {WORD, 78}, {WORD, 3}, {WORD, 676}, {WORD, 26}, {WORD, 677}, {WORD, 702}, {NOUGHT, 0}};
 
     static void all() {
         ranked();
         rankedAlike();
+        rankedWords();
         same();
+        sameNothing();
         fit();
         fitNothing();
         views();
@@ -76,6 +82,28 @@ final class EdgesOfRanks extends Edges {
         }
     }
 
+    private static void rankedWords() {
+        says("T2", "then WORDS (as in a book), then NOTHING", 12, 15, 17);
+        List<String> book = new ArrayList<>();
+        for (char first = 'a'; first <= 'z'; first++) {
+            book.add("" + first);
+            for (char second = 'a'; second <= 'z'; second++) {
+                book.add("" + first + second);
+            }
+        }
+        Collections.sort(book);
+        for (int from = 0; from + 1 < book.size(); from += 25) {
+            List<String> page = book.subList(from, Math.min(from + 26, book.size()));
+            ColumnCasts x = table(page.size(), "n(" + String.join(",", page) + ")");
+            due("words from " + page.get(0) + " on, not ahead", x.of(0, 2), page.size() - 1);
+            x.key(0, true);
+            x.sort(0);
+            for (int i = 0; i < page.size(); i++) {
+                due("from " + page.get(0) + " on, turned, at " + i, x.viewed(0, i), page.size() - 1 - i);
+            }
+        }
+    }
+
     private static int isSame(long[] first, long[] second) {
         ColumnCasts x = cells(first, second);
         int differs = x.differs(0, 1);
@@ -97,6 +125,34 @@ final class EdgesOfRanks extends Edges {
         due("booleans made of unlike longs", isSame(new long[] {10, 1}, new long[] {10, -1}), 1);
         due("a box of 1 and a word of 1", isSame(new long[] {14, 1}, new long[] {WORD, 1}), 0);
         due("a box of 0 and nothing", isSame(new long[] {14, 0}, new long[] {NOUGHT, 0}), 0);
+    }
+
+    private static void sameNothing() {
+        says("T2", "SAME: both NOTHING, BOXES of one KIND and NUMBER, one WORD", 11, 12, 17, 23);
+        for (int kind = 8; kind < 11; kind++) {
+            // New; read; written over a box or a word; brought; cast.
+            ColumnCasts x = Checks.rows(1);
+            due("read", Checks.read(x, "won".charAt(kind - 8) + "(_)"), 0);
+            x.size(5);
+            int full = kind == 8 ? 14 : WORD;
+            x.write(0, 2, full, 5);
+            x.write(0, 2, NOUGHT, 5);
+            x.write(0, 3, full, 5);
+            x.bring(0, 0, 0, 3, 1);
+            x.write(0, 4, full, 5);
+            x.bring(0, 1, 0, 4, 1);
+            due("unlike ones of kind " + kind, x.of(0, 1), 1);
+            due("not ahead of kind " + kind, x.of(0, 2), 4);
+            due("groups of kind " + kind, Checks.grouped(x, 0, 0), "1 0x5");
+            for (int r = 1; r < 5; r++) {
+                due("row " + r + " of kind " + kind, x.differs(0, r), NO_SUCH);
+            }
+            x.key(0, true);
+            due("sorted", x.sort(0), 0);
+            x.cast(0, kind == 8 ? 10 : 8);
+            x.size(6);
+            due("cast ones and a new one of kind " + kind, x.of(0, 1), 1);
+        }
     }
 
     private static void fitting(long[] first, long[] second, int due) {
@@ -205,6 +261,14 @@ final class EdgesOfRanks extends Edges {
         x.key(0, true);
         x.sort(0);
         due("turned again, like ones as they stood", Checks.viewed(x, 0), "[0, 5, 1, 2, 4, 3]");
+        String[] sorted = {"[2, 0, 3, 1]", "[0, 2, 1, 3]", "[3, 1, 2, 0]", "[1, 3, 0, 2]"};
+        for (int turned = 0; turned < 4; turned++) {
+            ColumnCasts y = table(4, "i(1,2,1,2)", "n(b,b,a,a)");
+            y.key(0, (turned & 2) != 0);
+            y.key(1, (turned & 1) != 0);
+            y.sort(0);
+            due("by two keys, turned " + turned, Checks.viewed(y, 0), sorted[turned]);
+        }
     }
 
     private static void sortedByGone() {
@@ -351,6 +415,11 @@ final class EdgesOfRanks extends Edges {
         y.filter(0, 1, 4, 1);
         y.filter(2, 4, 4, 1);
         due("the fewest ahead", Checks.ordered(y, 0), "16 [1, 2, 0, 3]");
+        ColumnCasts z = table(11, "i(1,1,1,1)", "i(1,1,0,0,0,1,1,1)", "i(0,0,1,1,0,0,0,0,1,1,1)");
+        for (int c = 0; c < 3; c++) {
+            z.filter(c, 1, 4, 1);
+        }
+        due("not the one that leaves fewest first", Checks.ordered(z, 0), "16 [1, 2, 0]");
     }
 
     private static void pairs() {
@@ -460,6 +529,9 @@ final class EdgesOfRanks extends Edges {
         ColumnCasts first = cells(new long[] {15, TWO53}, new long[] {17, 4}, new long[] {15, 1});
         first.column(4);
         summed("the large one first, the others lost", first, 0, 1, 7, bits(9007199254740992.0));
+        first.key(0, false);
+        first.sort(0);
+        summed("in the order of the view", first, 0, 1, 7, bits(9007199254740994.0));
     }
 
     /** The kinds, as bits, from which a cell comes back. */

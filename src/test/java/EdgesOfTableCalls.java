@@ -79,6 +79,7 @@ final class EdgesOfTableCalls extends Edges {
         says("2", "Those behind are no more (in VIEWS, too)");
         ColumnCasts x = table(4, "i(3,1,2,0)");
         x.key(0, false);
+        x.filter(0, 4, 4, 0);
         x.sort(0);
         x.keep(1, 0, 2, 4, 0);
         due("size 3", x.size(3), 4);
@@ -94,6 +95,7 @@ final class EdgesOfTableCalls extends Edges {
         due("view 1", Checks.viewed(x, 1), "[]");
         due("cells", Checks.spelled(x, 0), "i()");
         due("keys stay", x.count(2), 1);
+        due("filters stay", x.count(3), 1);
         due("columns stay", x.count(1), 1);
     }
 
@@ -488,8 +490,14 @@ final class EdgesOfTableCalls extends Edges {
         for (int c = 0; c < 12; c++) {
             last.column(4);
         }
+        due("by none of 12", last.differs(0, 1), NO_SUCH);
         last.write(11, 1, 4, 1);
         due("by column 11", last.differs(0, 1), 11);
+        ColumnCasts undone = table(2, "i(5,5)");
+        undone.image();
+        Checks.read(undone, "i(1,2)");
+        undone.undo();
+        due("by one that is not there any more", undone.differs(0, 1), NO_SUCH);
         asks("differs", y -> y.differs(0, 2), ANYS);
     }
 
@@ -506,6 +514,7 @@ final class EdgesOfTableCalls extends Edges {
     private static void ofDue(int rows, String text, int empty, int unlike, int notAhead) {
         ColumnCasts x = table(rows, text);
         due("nothing in " + text + " of " + rows, x.of(0, 0), empty);
+        due("nothing in " + text + " of " + rows + " once more", x.of(0, 0), empty);
         due("unlike ones in " + text + " of " + rows, x.of(0, 1), unlike);
         due("not ahead in " + text + " of " + rows, x.of(0, 2), notAhead);
     }

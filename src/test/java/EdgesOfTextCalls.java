@@ -232,6 +232,15 @@ final class EdgesOfTextCalls extends Edges {
         due("cells of it", Checks.spelled(y, DOUBLES), "i(0,0,0)");
         due("bytes of the text", y.count(7), 5);
         due("got", y.got(), bits(2.0));
+        ColumnCasts z = table(1, "i(5)", "o('a)");
+        z.image();
+        z.size(3);
+        z.write(0, 2, 4, 9);
+        z.write(1, 2, WORD, 9);
+        due("undo", z.undo(), 1);
+        due("rows that come again", z.size(3), 1);
+        due("have new cells", Checks.spelled(z, 0) + Checks.spelled(z, 1), "i(5,0,0)o('a,_,_)");
+        due("stand in view 0", Checks.viewed(z, 0), "[0, 1, 2]");
     }
 
     private static void undoOfFull() {

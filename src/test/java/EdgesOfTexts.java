@@ -418,6 +418,7 @@ final class EdgesOfTexts extends Edges {
         undone("a filter more", x -> x.filter(LONGS, 1, 4, 1), state);
         undone("no filters", x -> x.filter(-1, 1, 4, 1), state);
         undone("unlike filters", x -> x.filter(-1, 0, 0, 0) + x.filter(ANYS, 3, 4, 1) + x.filter(ANYS, 3, 4, 1) + x.filter(ANYS, 3, 4, 1), state);
+        undone("filters but for what they are told", x -> x.filter(-1, 0, 0, 0) + x.filter(ANYS, 4, 10, 7) + x.filter(LONGS, 2, 5, 2), state);
         undone("view 1 sorted", x -> x.view(1) + x.sort(1), state);
     }
 

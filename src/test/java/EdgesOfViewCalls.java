@@ -317,7 +317,7 @@ final class EdgesOfViewCalls extends Edges {
         y.filter(0, 1, 4, 1);
         y.filter(1, 1, 4, 1);
         y.filter(2, 1, 4, 1);
-        due("not the fewest first", Checks.ordered(y, 0), "8 [2, 0, 1]");
+        due("the fewest first", Checks.ordered(y, 0), "8 [2, 0, 1]");
         y.filter(-1, 0, 0, 0);
         y.filter(0, 1, 4, 1);
         y.filter(1, 1, 4, 1);
