@@ -392,6 +392,16 @@ final class EdgesOfTableCalls extends Edges {
             due("bring within " + text, x.bring(0, 0, 0, 1, 1), 1);
             due("the same within " + text, x.differs(0, 1), 1);
         }
+        String[] mixed = {"o(i1,b2,'c,_,d5)", "d(1,2,3,4,5)", "n(a,_,c,d,e)", "w(1,_,3,4,5)"};
+        String[] down = {"o(i1,i1,b2,'c,_)", "d(1,1,2,3,4)", "n(a,a,_,c,d)", "w(1,1,_,3,4)"};
+        String[] up = {"o(b2,'c,_,d5,d5)", "d(2,3,4,5,5)", "n(_,c,d,e,e)", "w(_,3,4,5,5)"};
+        for (int k = 0; k < mixed.length; k++) {
+            ColumnCasts x = table(5, mixed[k], mixed[k]);
+            due("bring down within " + mixed[k], x.bring(0, 0, 0, 1, 4), 4);
+            due("brought down", Checks.spelled(x, 0), down[k]);
+            due("bring up within " + mixed[k], x.bring(1, 1, 1, 0, 4), 4);
+            due("brought up", Checks.spelled(x, 1), up[k]);
+        }
         ColumnCasts full = Checks.rows(40);
         full.column(4);
         full.column(4);
