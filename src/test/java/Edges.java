@@ -75,6 +75,12 @@ abstract class Edges {
 
     /** An object of 3 rows with something of everything. */
     static ColumnCasts busy() {
+        ColumnCasts x = withoutText();
+        Checks.feed(x, "d(4,8");
+        return x;
+    }
+
+    static ColumnCasts withoutText() {
         ColumnCasts x = table(3, "i(1,2,3)", "o(i5,'b)", "l(3,1,2)");
         x.key(0, true);
         x.key(2, false);
@@ -89,7 +95,6 @@ abstract class Edges {
         x.filter(LONGS, 2, 5, 1);
         x.keep(1, LONGS, 2, 4, 1);
         x.ask(LONGS, 2, 7);
-        Checks.feed(x, "d(4,8");
         return x;
     }
 

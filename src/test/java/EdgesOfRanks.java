@@ -156,19 +156,14 @@ final class EdgesOfRanks extends Edges {
     }
 
     private static void fitting(long[] first, long[] second, int due) {
-        ColumnCasts x = cells(first, second);
-        // The pair of the two rows is 1 or 100.
-        x.size(2);
-        ColumnCasts y = Checks.rows(1);
-        y.column(9);
-        y.column(9);
-        y.write(0, 0, (int) first[0], first[1]);
-        y.write(1, 0, (int) second[0], second[1]);
-        due(told(first) + " and " + told(second) + ", fitting", y.pair(0, 1, -1), due);
-        due(told(second) + " and " + told(first) + ", fitting", y.pair(1, 0, -1), due);
-        if (second[0] < NOUGHT) {
-            due(told(first) + " by test 1 of " + told(second), x.keep(0, 0, 1, (int) second[0] - 10, second[1]),
-                due + (second[0] == first[0] && second[1] == first[1] ? 0 : 1));
+        ColumnCasts x = cells(first);
+        x.column(9);
+        x.write(1, 0, (int) second[0], second[1]);
+        due(told(first) + " and " + told(second) + ", fitting", x.pair(0, 1, -1), due);
+        due(told(second) + " and " + told(first) + ", fitting", x.pair(1, 0, -1), due);
+        if (second[0] != NOUGHT) {
+            int kind = second[0] == WORD ? 10 : (int) second[0] - 10;
+            due(told(first) + " by test 1 of " + told(second), x.keep(0, 0, 1, kind, second[1]), due);
         }
     }
 

@@ -95,20 +95,12 @@ final class EdgesOfTextCalls extends Edges {
         y.read();
         due("what a fault leaves", State.of(y), State.of(withoutText()));
         ColumnCasts z = Checks.rows(3);
-        due("a fault at 11", Checks.read(z, "i(123456,1x"), -20);
+        due("a fault at 10", Checks.read(z, "i(123456,1x"), -20);
         due("a fault at 11", Checks.read(z, "i(123456,12x"), -21);
         due("a fault at 12", Checks.read(z, "i(123456,123x"), -22);
         due("a fault at 13", Checks.read(z, "i(123456,1234x"), -23);
         due("a fault is not refused", Checks.refused(z), "0 0 0");
-        due("a fault at 99", Checks.read(z, "i(" + "1".repeat(97) + ")"), -18);
-    }
-
-    /** busy() whose text was read as a column of an image that was undone. */
-    private static ColumnCasts withoutText() {
-        ColumnCasts x = busy();
-        Checks.feed(x, "!");
-        x.read();
-        return x;
+        due("a fault ahead of many more", Checks.read(z, "i(" + "1".repeat(97) + ")"), -18);
     }
 
     private static void readFull() {
