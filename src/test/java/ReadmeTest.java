@@ -85,8 +85,8 @@ public final class ReadmeTest {
                 examples.add(example);
             }
         }
-        // How an object is made, and the four groups of calls.
-        Checks.due("examples in README.md", examples.size(), 5);
+        // How an object is made, how cells compare, and the four groups of calls.
+        Checks.due("examples in README.md", examples.size(), 6);
         run(source.append("}\n").toString(), examples);
     }
 
